@@ -353,7 +353,8 @@ public final class PromisesTest {
             int first = 256 - (256 >> (2 * level));
             Due.is("the last square of level " + level, c.piece(1, 0), 256 * level + first);
         }
-        c.combine(2, 2, 2, 2);
+        c.change(1, 0, true);
+        Due.is("no piece of the set behind it", c.piece(0, 3), NONE);
         c.change(2, square(1, 0, 0), true);
         c.change(2, square(1, 1, 1), true);
         c.change(2, square(2, 1, 2), true);
@@ -422,6 +423,7 @@ public final class PromisesTest {
         c.change(1, 0, true);
         Due.is("nth(1, 255)", c.nth(1, 255), 240);
         Due.is("nth(1, 256)", c.nth(1, 256), NONE);
+        Due.is("no cell of the set behind it", c.nth(0, 3), NONE);
         for (int s : OUTSIDE_SETS) {
             Due.is("nth(" + s + ", 0)", c.nth(s, 0), BAD);
         }
