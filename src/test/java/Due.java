@@ -2,15 +2,27 @@
 final class Due {
     private static int asked = 0;
     private static int wrong = 0;
+    private static int sentences = 0;
+    private static String sentence = "";
+    private static int askedBefore = 0;
 
     private Due() {
+    }
+
+    /** Begins the test of one sentence of the document; the one before it must have asked something. */
+    static void sentence(String words) {
+        endSentence();
+        sentences++;
+        sentence = words;
+        askedBefore = asked;
     }
 
     static void is(String call, long got, long want) {
         asked++;
         if (got != want) {
             wrong++;
-            System.out.println(call + " answered " + got + ", due is " + want);
+            String where = sentence.isEmpty() ? "" : "[" + sentence + "] ";
+            System.out.println(where + call + " answered " + got + ", due is " + want);
         }
     }
 
@@ -19,9 +31,18 @@ final class Due {
     }
 
     static void end() {
-        System.out.println(asked + " answers, " + wrong + " not as due");
+        endSentence();
+        String on = sentences == 0 ? "" : " on " + sentences + " sentences";
+        System.out.println(asked + " answers" + on + ", " + wrong + " not as due");
         if (wrong != 0 || asked == 0) {
             System.exit(1);
+        }
+    }
+
+    private static void endSentence() {
+        if (!sentence.isEmpty() && asked == askedBefore) {
+            wrong++;
+            System.out.println("[" + sentence + "] nothing was asked");
         }
     }
 }
